@@ -1,16 +1,24 @@
 /** Counts the answers that are not as due; every test of the project ends with end(). */
 final class Check {
+    private static String sentence = "";
     private static int checked = 0;
     private static int wrong = 0;
 
     private Check() {
     }
 
+    /** Begins the test of one sentence of the document; a wrong answer is told with it. */
+    static void sentence(String text) {
+        mustHaveChecked();
+        sentence = text;
+        checked = 0;
+    }
+
     static void due(String call, long got, long want) {
         checked++;
         if (got != want) {
             wrong++;
-            System.out.println(call + " answered " + got + ", due is " + want);
+            System.out.println("[" + sentence + "] " + call + " answered " + got + ", due is " + want);
         }
     }
 
@@ -29,19 +37,19 @@ final class Check {
         }
     }
 
-    static int cell(int x, int y) {
-        return 12 * y + x;
-    }
-
-    static int box(int left, int right, int low, int high) {
-        return 4096 * left + 256 * right + 16 * low + high;
-    }
-
-    /** A test that checked nothing has failed too. */
     static void end() {
-        if (wrong != 0 || checked == 0) {
-            System.out.println(wrong + " of " + checked + " answers are not as due");
+        mustHaveChecked();
+        if (wrong != 0 || sentence.isEmpty()) {
+            System.out.println(wrong + " answers are not as due");
             System.exit(1);
+        }
+    }
+
+    /** A sentence whose test checked nothing is not tested. */
+    private static void mustHaveChecked() {
+        if (!sentence.isEmpty() && checked == 0) {
+            wrong++;
+            System.out.println("[" + sentence + "] nothing was checked");
         }
     }
 }

@@ -13,6 +13,7 @@ public final class FaceTest {
         "int farthest(int)", "int reach(int)", "int at(int, int)");
 
     public static void main(String[] args) throws Exception {
+        Check.sentence("The public face");
         Check.due("BAD", JumpPoints.BAD, -1);
         Check.due("NONE", JumpPoints.NONE, -2);
         Check.due("class is public and final",

@@ -13,6 +13,7 @@ public final class ModelTest {
     private String name;
 
     public static void main(String[] args) {
+        Check.sentence("all promises, in mixed runs");
         for (int run = 0; run < RUNS; run++) {
             new ModelTest().run(run);
         }
@@ -46,7 +47,7 @@ public final class ModelTest {
     private int anyCell() {
         int kind = below(40);
         if (kind == 0) {
-            return Numbers.OUTSIDE[below(Numbers.OUTSIDE.length)];
+            return Grids.OUTSIDE[below(Grids.OUTSIDE.length)];
         }
         int cell = below(144);
         // Most questions are about free cells, or nearly all answers would be BAD.
@@ -131,7 +132,7 @@ public final class ModelTest {
                 want++;
             }
         }
-        int box = Check.box(left, right, low, high);
+        int box = Grids.box(left, right, low, high);
         Check.due(name + "block(" + box + ", " + on + ")", grid.block(box, on), want);
     }
 
